@@ -468,6 +468,7 @@ public final class PlugBoard {
         private final Parts parts = new Parts();
         private final int[] needPlaces = new int[MOST_SLOTS];
         private int partsTold = 0;
+        private int part = 0;
         private int needsTold = 0;
         private int fault = 0;
         private int place = NONE;
@@ -500,6 +501,8 @@ public final class PlugBoard {
             if (partsTold >= MOST_PARTS) {
                 note(FAULT_MANY_PARTS, at);
             }
+            // A 13th part is a fault for sure, so it may spoil the row of the 12th.
+            part = Math.min(partsTold, MOST_PARTS - 1);
             partsTold++;
             needsTold = 0;
             if (!readAct() || !readNumber()) {
@@ -521,9 +524,7 @@ public final class PlugBoard {
             if (act == NONE) {
                 return false;
             }
-            if (partsTold <= MOST_PARTS) {
-                parts.act[partsTold - 1] = act;
-            }
+            parts.act[part] = act;
             tokens.advance();
             return true;
         }
@@ -552,9 +553,7 @@ public final class PlugBoard {
             if (tokens.kind != Tokens.NUMBER) {
                 return false;
             }
-            if (partsTold <= MOST_PARTS) {
-                parts.number[partsTold - 1] = minus ? -tokens.number : tokens.number;
-            }
+            parts.number[part] = minus ? -tokens.number : tokens.number;
             tokens.advance();
             return true;
         }
@@ -575,9 +574,7 @@ public final class PlugBoard {
             if (!tokens.takeWord("bad")) {
                 return false;
             }
-            if (partsTold <= MOST_PARTS) {
-                parts.bad[partsTold - 1] = true;
-            }
+            parts.bad[part] = true;
             return true;
         }
 
@@ -588,9 +585,7 @@ public final class PlugBoard {
             if (span == NONE) {
                 return false;
             }
-            if (partsTold <= MOST_PARTS) {
-                parts.span[partsTold - 1] = span;
-            }
+            parts.span[part] = span;
             tokens.advance();
             return true;
         }
@@ -612,8 +607,7 @@ public final class PlugBoard {
             }
             if (needsTold >= MOST_NEEDS) {
                 note(FAULT_FIFTH_NEED, tokens.from);
-            } else if (partsTold <= MOST_PARTS) {
-                int part = partsTold - 1;
+            } else {
                 needPlaces[part * MOST_NEEDS + needsTold] = tokens.from;
                 parts.addNeed(part, tokens.number, lazy);
             }
@@ -627,18 +621,16 @@ public final class PlugBoard {
             if (tokens.number > MOST_BREAKS) {
                 note(FAULT_NUMBER, tokens.from);
             }
-            if (partsTold <= MOST_PARTS) {
-                parts.breaks[partsTold - 1] = tokens.number;
-            }
+            parts.breaks[part] = tokens.number;
             tokens.advance();
             return true;
         }
 
         /** Which needs are no parts is known only when all parts are told. */
         private void noteStrangeNeeds() {
-            for (int part = 0; part < partsTold && part < MOST_PARTS; part++) {
-                for (int k = 0; k < parts.needCount[part]; k++) {
-                    int slot = part * MOST_NEEDS + k;
+            for (int told = 0; told <= part; told++) {
+                for (int k = 0; k < parts.needCount[told]; k++) {
+                    int slot = told * MOST_NEEDS + k;
                     if (parts.need[slot] >= partsTold) {
                         note(FAULT_NO_PART, needPlaces[slot]);
                     }
@@ -1273,14 +1265,23 @@ public final class PlugBoard {
 
         /** The first part that comes again on the way from the least that can not start, or NONE. */
         private int loopEntry(int can, long loosened) {
-            int part = Integer.numberOfTrailingZeros(~can);
+            int part = leastStuck(can);
             int seen = 0;
-            for (int round = 0; round <= parts.count && parts.holds(part); round++) {
+            for (int round = 0; round <= parts.count && part != NONE; round++) {
                 if ((seen & (1 << part)) != 0) {
                     return part;
                 }
                 seen |= 1 << part;
                 part = behind(stuckSlot(part, can, loosened));
+            }
+            return NONE;
+        }
+
+        private int leastStuck(int can) {
+            for (int part = 0; part < parts.count; part++) {
+                if ((can & (1 << part)) == 0) {
+                    return part;
+                }
             }
             return NONE;
         }
@@ -1351,14 +1352,16 @@ public final class PlugBoard {
             if (fewest == NOT_ENOUGH || k == NONE) {
                 return fewest;
             }
-            if (k < 0 || k >= fewest) {
-                return NONE;
+            int before = 0;
+            for (int slot = 0; slot < MOST_SLOTS; slot++) {
+                if ((loosest & (1L << slot)) != 0) {
+                    if (before == k) {
+                        return slot;
+                    }
+                    before++;
+                }
             }
-            long rest = loosest;
-            for (int i = 0; i < k; i++) {
-                rest &= rest - 1;
-            }
-            return Long.numberOfTrailingZeros(rest);
+            return NONE;
         }
 
         private void findFewest() {

@@ -14,6 +14,7 @@ public final class PlanTest {
         looseningNotEnough();
         looseningTwins();
         standInsAreNotAsked();
+        eachAskedFirst();
         check.end();
     }
 
@@ -132,5 +133,20 @@ public final class PlanTest {
         Check.read(x, "part add 1 needs 0;");
         check.due("start of the new parts", Check.start(x), "");
         check.due("looser of the new parts", Check.looser(x), "1: 0");
+    }
+
+    private static void eachAskedFirst() {
+        String text = "part add 1 needs 1;part add 1 needs 2;part add 1 needs 3;part just 1;part add 1 needs 4;";
+        check.due("start", Check.boardOf(text).start(NONE), 4);
+        check.due("start(0)", Check.boardOf(text).start(0), 3);
+        check.due("loop", Check.boardOf(text).loop(NONE), 1);
+        check.due("loop(0)", Check.boardOf(text).loop(0), 4);
+        check.due("needs", Check.boardOf(text).needs(0, false), 14);
+        check.due("deep", Check.boardOf(text).deep(), NONE);
+        check.due("wave", Check.boardOf(text).wave(0), 3);
+        check.due("lost", Check.boardOf(text).lost(3), 15);
+        check.due("looser", Check.boardOf(text).looser(NONE), 1);
+        check.due("looser(0)", Check.boardOf(text).looser(0), 16);
+        check.due("deep", Check.boardOf("part add 1 needs 1;part just 1;").deep(), 2);
     }
 }

@@ -16,6 +16,7 @@ public final class TextTest {
         faultOrder();
         readingAfterFault();
         readingResets();
+        nothingBehindTheEnd();
         check.end();
     }
 
@@ -264,5 +265,27 @@ public final class TextTest {
         check.due("stands anew", x.stands(0, 0), 0);
         check.due("undo anew", x.undo(), NONE);
         check.due("numbers anew", x.part(0, 1), 2);
+    }
+
+    private static void nothingBehindTheEnd() {
+        PlugBoard x = new PlugBoard();
+        Check.read(x, "part just 1234567 part just 1;");
+        check.due("a number that ends with the text", Check.read(x, "part just 123"), NONE);
+        check.due("its fault", x.fault(false), 1);
+        check.due("its place is the end", x.fault(true), 13);
+        Check.read(x, "part justpart");
+        check.due("a word that ends with the text", Check.read(x, "part just"), NONE);
+        check.due("its place is the end", x.fault(true), 9);
+        check.due("brim", Check.type(x, " ".repeat(595) + "part "), 600);
+        check.due("read", x.read(), NONE);
+        check.due("its place is the end", x.fault(true), 600);
+        check.due("brim", Check.type(x, " ".repeat(592) + " partabc"), 600);
+        check.due("read", x.read(), NONE);
+        check.due("its place", x.fault(true), 593);
+        check.due("brim", Check.type(x, " ".repeat(584) + "part just 123456"), 600);
+        check.due("read", x.read(), NONE);
+        check.due("its place", x.fault(true), 594);
+        check.due("brim", Check.type(x, " ".repeat(584) + "part just    12;"), 600);
+        check.due("read", x.read(), 1);
     }
 }
