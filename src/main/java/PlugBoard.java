@@ -1233,7 +1233,7 @@ public final class PlugBoard {
 
         private void findLoop() {
             loopCount = 0;
-            int can = startable(0L);
+            int can = startable(0L, 0);
             int first = loopEntry(can, 0L);
             int part = first;
             for (int round = 0; round < parts.count && part != NONE; round++) {
@@ -1246,13 +1246,14 @@ public final class PlugBoard {
             }
         }
 
-        /** Which parts can start, as bits, if some needs are loosened (bits of slots). */
-        private int startable(long loosened) {
-            int can = 0;
+        /** Which parts can start, as bits, if some needs are loosened (bits of slots); some are known to. */
+        private int startable(long loosened, int known) {
+            int can = known;
             for (int round = 0; round < parts.count; round++) {
                 int before = can;
                 for (int part = 0; part < parts.count; part++) {
-                    if ((parts.needBits(part, false, loosened) & ~can) == 0) {
+                    boolean there = (can & (1 << part)) != 0;
+                    if (!there && (parts.needBits(part, false, loosened) & ~can) == 0) {
                         can |= 1 << part;
                     }
                 }
@@ -1368,7 +1369,7 @@ public final class PlugBoard {
             found = false;
             loosest = 0;
             for (int most = 0; most <= MOST_LOOSENED; most++) {
-                loosen(0L, most);
+                loosen(0L, 0L, 0, most);
                 if (found) {
                     fewest = most;
                     return;
@@ -1377,21 +1378,28 @@ public final class PlugBoard {
             fewest = NOT_ENOUGH;
         }
 
-        /** Each choice must break the loop that is still there, so only its needs are tried. */
-        private void loosen(long loosened, int left) {
-            int can = startable(loosened);
-            int first = loopEntry(can, loosened);
-            if (first == NONE) {
+        /**
+         * Each choice must break the loop that is still there, so only its needs are tried; one that was
+         * tried is settled behind it, as all choices with it are seen by then.
+         */
+        private void loosen(long loosened, long settled, int known, int left) {
+            int can = startable(loosened, known);
+            if (leastStuck(can) == NONE) {
                 consider(loosened);
                 return;
             }
+            int first = left > 0 ? loopEntry(can, loosened) : NONE;
             int part = first;
-            for (int round = 0; round < parts.count && left > 0; round++) {
+            long tried = settled;
+            for (int round = 0; round < parts.count && part != NONE; round++) {
                 int slot = stuckSlot(part, can, loosened);
                 if (slot == NONE) {
                     return;
                 }
-                loosen(loosened | (1L << slot), left - 1);
+                if ((tried & (1L << slot)) == 0) {
+                    loosen(loosened | (1L << slot), tried, can, left - 1);
+                }
+                tried |= 1L << slot;
                 part = behind(slot);
                 if (part == first) {
                     return;
