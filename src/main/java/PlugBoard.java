@@ -466,7 +466,8 @@ public final class PlugBoard {
 
         private final Tokens tokens;
         private final Parts parts = new Parts();
-        private final int[] needPlaces = new int[MOST_SLOTS];
+        // Where each part is first told as a need, whichever part needs it.
+        private final int[] firstNeeded = new int[MOST_PARTS];
         private int partsTold = 0;
         private int part = 0;
         private int needsTold = 0;
@@ -475,6 +476,7 @@ public final class PlugBoard {
 
         Reader(Paper paper) {
             tokens = new Tokens(paper);
+            Arrays.fill(firstNeeded, NONE);
         }
 
         void readAll() {
@@ -501,7 +503,7 @@ public final class PlugBoard {
             if (partsTold >= MOST_PARTS) {
                 note(FAULT_MANY_PARTS, at);
             }
-            // A 13th part is a fault for sure, so it may spoil the row of the 12th.
+            // A 13th part is a fault for sure, so it may spoil the row of the 12th: no fault is told by rows.
             part = Math.min(partsTold, MOST_PARTS - 1);
             partsTold++;
             needsTold = 0;
@@ -602,14 +604,16 @@ public final class PlugBoard {
         }
 
         private void addNeed(boolean lazy) {
-            if (tokens.number >= MOST_PARTS) {
+            int needed = tokens.number;
+            if (needed < 0 || needed >= MOST_PARTS) {
                 note(FAULT_NUMBER, tokens.from);
+            } else if (firstNeeded[needed] == NONE) {
+                firstNeeded[needed] = tokens.from;
             }
             if (needsTold >= MOST_NEEDS) {
                 note(FAULT_FIFTH_NEED, tokens.from);
             } else {
-                needPlaces[part * MOST_NEEDS + needsTold] = tokens.from;
-                parts.addNeed(part, tokens.number, lazy);
+                parts.addNeed(part, needed, lazy);
             }
             needsTold++;
         }
@@ -628,12 +632,9 @@ public final class PlugBoard {
 
         /** Which needs are no parts is known only when all parts are told. */
         private void noteStrangeNeeds() {
-            for (int told = 0; told <= part; told++) {
-                for (int k = 0; k < parts.needCount[told]; k++) {
-                    int slot = told * MOST_NEEDS + k;
-                    if (parts.need[slot] >= partsTold) {
-                        note(FAULT_NO_PART, needPlaces[slot]);
-                    }
+            for (int needed = partsTold; needed < MOST_PARTS; needed++) {
+                if (firstNeeded[needed] != NONE) {
+                    note(FAULT_NO_PART, firstNeeded[needed]);
                 }
             }
         }

@@ -16,6 +16,7 @@ public final class FaultTest {
         int runs = args.length > 0 ? Integer.parseInt(args[0]) : 6000;
         for (int run = 0; run < runs; run++) {
             compare(run % 3 == 0 ? anyText() : spoilt(wellFormed(), run % 3));
+            compare(atTheBrim());
         }
         check.end();
     }
@@ -41,6 +42,22 @@ public final class FaultTest {
             text.append(random.nextBoolean() ? ";" : " ;\n");
         }
         return text.length() > 595 ? text.substring(0, 595) : text.toString();
+    }
+
+    /** Parts about as many as may be, the last of them with needs that can be or not. */
+    private static String atTheBrim() {
+        StringBuilder text = new StringBuilder();
+        int parts = 11 + random.nextInt(5);
+        for (int p = 0; p < parts; p++) {
+            text.append("part just 1");
+            int needs = p < 10 || random.nextInt(3) == 0 ? 0 : 1 + random.nextInt(5);
+            for (int k = 0; k < needs; k++) {
+                text.append(k == 0 || random.nextInt(4) == 0 ? (random.nextBoolean() ? " needs " : " lazy ") : " ");
+                text.append(random.nextInt(random.nextInt(6) == 0 ? 20 : 12));
+            }
+            text.append(random.nextInt(12) == 0 ? " breaks 10;" : ";");
+        }
+        return text.toString();
     }
 
     private static String clause(int parts) {

@@ -13,6 +13,7 @@ public final class TextTest {
         firstFaults();
         numberFaults();
         countFaults();
+        needsOfThirteenth();
         faultOrder();
         readingAfterFault();
         readingResets();
@@ -208,6 +209,21 @@ public final class TextTest {
         refused(ten + "part add 1 needs 12;part just 1;part just 1;", 2, 137);
         refused(ten + "part add 1 needs 11;", 5, 137);
         refused(ten + "part just 1;part just 1;part just 1 needs 0 0 0 0 0", 1, 171);
+    }
+
+    private static void needsOfThirteenth() {
+        String eleven = "part just 1;".repeat(11);
+        refused(eleven + "part just 1 needs 0;part just 1 needs 13;", 4, 152);
+        refused(eleven + "part just 1 needs 0;part just 1 lazy 999;", 4, 152);
+        refused(eleven + "part just 1 lazy 0 1;part just 1 needs 0 13 0;", 4, 153);
+        refused(eleven + "part just 1 needs 0 1 2;part just 1 needs 13 13 13 13 13;", 4, 156);
+        refused(eleven + "part just 1 needs 0 1 2 3;part just 1 breaks 10 needs 14;", 4, 158);
+        refused(eleven + "part just 1 needs 0;part just 1 needs 0;part just 1 needs 20;part just 1 needs 20;", 4, 152);
+        refused(eleven + "part just 1;part just 1 needs 13 13 13 13;part just 1 needs 14;", 4, 144);
+        refused(eleven + "part just 1 needs 12;part just 1 needs 0;", 2, 150);
+        refused(eleven + "part just 1 needs 0 13;part just 1 needs 0 0;", 2, 152);
+        refused(eleven + "part just 1 needs 0 0 0 0 0;part just 1 needs 13;", 3, 158);
+        refused(eleven + "part just 1 needs 0;part just 1 needs 13", 1, 172);
     }
 
     private static void faultOrder() {
