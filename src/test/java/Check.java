@@ -8,6 +8,12 @@ final class Check {
     }
 
     private int wrong = 0;
+    private String sentence = "";
+
+    /** The sentence of the document that the checks behind this look at. */
+    void of(String told) {
+        sentence = "[" + told + "] ";
+    }
 
     void due(String what, long got, long want) {
         if (got != want) {
@@ -37,7 +43,7 @@ final class Check {
 
     private void tell(String what, String got, String want) {
         wrong++;
-        System.out.println(what + " answered " + got + ", due is " + want);
+        System.out.println(sentence + what + " answered " + got + ", due is " + want);
     }
 
     void end() {
