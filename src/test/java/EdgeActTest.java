@@ -31,6 +31,7 @@ public final class EdgeActTest {
         brokenAheadOfFull();
         fullNoMore();
         madeIsCounted();
+        needsOfAllOnTheWay();
         whyOfStandIns();
         whatWasMadeStays();
         valueOfNoThing();
@@ -42,6 +43,8 @@ public final class EdgeActTest {
         valueRingOfItself();
         valueRingOfSixty();
         valueOfLongWays();
+        whyAtItsLongest();
+        whyWithoutWhatIsReckoned();
         lazyIsAskedOnce();
         lazyWithNothingOnTheWay();
         check.end();
@@ -453,6 +456,33 @@ public final class EdgeActTest {
         check.due("of all", x.count(4), 8);
     }
 
+    private static void needsOfAllOnTheWay() {
+        check.of("Terms 2: the THING lives, with the THINGS of its EAGER NEEDS (12 on the WAY, 4 needs each)");
+        StringBuilder text = new StringBuilder();
+        for (int p = 0; p < 11; p++) {
+            int next = p + 1;
+            text.append("part add 1 needs ").append(next).append(" 11 ").append(next).append(" 11;");
+        }
+        PlugBoard x = Check.boardOf(text + "part just 1;");
+        check.due("ask", x.ask(0), 11);
+        check.due("the last lives first", Check.things(x), "11@0 10@0 9@0 8@0 7@0 6@0 5@0 4@0 3@0 2@0 1@0 0@0");
+        for (int t = 1; t < 12; t++) {
+            for (int k = 0; k < 4; k++) {
+                check.due("thing " + t + " has " + k, x.has(t, k), k % 2 == 0 ? t - 1 : 0);
+            }
+        }
+        check.due("the last has none", x.thing(0, 4), 0);
+        PlugBoard y = Check.boardOf("part add 1 span each lazy 2 needs 1 lazy 2 needs 1;part add 1 span each needs 2 lazy 2 needs 2;part just 1 span each;");
+        check.due("ask", y.ask(0), 6);
+        check.due("things", Check.things(y), "2@0 2@0 1@0 2@0 2@0 1@0 0@0");
+        int[][] due = {{NONE, 2, NONE, 5}, {0, NONE, 1, NONE}, {3, NONE, 4, NONE}};
+        for (int k = 0; k < 4; k++) {
+            check.due("of 0", y.has(6, k), due[0][k]);
+            check.due("of the first 1", y.has(2, k), due[1][k]);
+            check.due("of the second 1", y.has(5, k), due[2][k]);
+        }
+    }
+
     private static void whyOfStandIns() {
         check.of("Terms 2: WHY (as they were to be MADE, not those that they stand for)");
         PlugBoard x = Check.boardOf("part just 1;part add 1 needs 0;part add 1 needs 3;part just 1 breaks 1;");
@@ -601,6 +631,48 @@ public final class EdgeActTest {
         check.due("then full", x.value(0), -4);
         check.due("60 reckoned, one to be made", x.count(9), 61);
         check.due("the last", x.why(60), 0);
+    }
+
+    /** 59 things that are reckoned, one by the other; then a ring of 11 parts, the first of them twice. */
+    private static void whyAtItsLongest() {
+        check.of("Terms 2: WHY then: PARTS of THINGS whose VALUES are reckoned, then those that were ASKED (as many as can be)");
+        StringBuilder text = new StringBuilder("part add 1 span each lazy 0 needs 1;");
+        for (int p = 1; p < 11; p++) {
+            text.append("part add 1 span each needs ").append((p + 1) % 11).append(';');
+        }
+        PlugBoard x = Check.boardOf(text + "part add 1 lazy 0;");
+        check.due("the first", x.ask(11), 0);
+        x.stand(1, 11);
+        x.enter();
+        check.due("one in the scope", x.ask(0), 1);
+        check.due("all others on the board", x.value(0), -4);
+        check.due("leave", x.leave(), 1);
+        check.due("things", x.count(2), 59);
+        x.stand(1, 1);
+        check.due("ring", x.value(0), -2);
+        check.due("how many", x.count(9), 71);
+        check.due("the first that is reckoned", x.why(0), 11);
+        for (int k = 1; k < 71; k++) {
+            check.due("why " + k, x.why(k), k <= 58 || k == 70 ? 0 : k - 59);
+        }
+        check.due("no more", x.why(71), NONE);
+        check.due("undo", x.undo() >= 0, true);
+        check.due("again", x.value(0), -2);
+        check.due("how many", x.count(9), 71);
+    }
+
+    private static void whyWithoutWhatIsReckoned() {
+        check.of("Terms 2: WHY then: PARTS of THINGS whose VALUES are reckoned (not those that are there)");
+        PlugBoard x = Check.boardOf("part add 1 needs 1 2;part add 1 lazy 3;part add 1 lazy 3 4;part just 1;part just 1 breaks 1;");
+        x.ask(0);
+        check.due("broken", x.value(2), -3);
+        check.due("why", Check.why(x), "-3: 0 2 4");
+        check.due("what was reckoned stays", x.count(3), 2);
+        check.due("then it can", x.value(2), 1);
+        PlugBoard y = Check.boardOf("part add 1 lazy 1 2 0;part just 1;part just 1;");
+        y.ask(0);
+        check.due("ring", y.value(0), -2);
+        check.due("why", Check.why(y), "-2: 0 0");
     }
 
     private static void lazyIsAskedOnce() {

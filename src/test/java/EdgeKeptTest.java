@@ -11,6 +11,8 @@ public final class EdgeKeptTest {
         undoOfNone();
         undoLatestEight();
         undoEachAct();
+        undoLeaveOfMany();
+        undoOfTheTwelfth();
         undoWhatCameToNothing();
         undoAllKinds();
         undoAroundTheEnd();
@@ -95,6 +97,75 @@ public final class EdgeKeptTest {
             };
             same("act " + many, Picture.now(before), Picture.now(undone));
         }
+    }
+
+    /** Things of two scopes in turn, each with what it needs, some with values: 60 in all. */
+    private static void many(PlugBoard x) {
+        Check.read(x, "part just 4 span each;part add 1 span each needs 0 lazy 0;part just 3 bad;part sub 9 needs 2 0 2 lazy 1;part add 8 span scope needs 0 1 3 2;");
+        x.ask(0);
+        x.ask(1);
+        x.enter();
+        x.ask(4);
+        x.ask(3);
+        x.value(2);
+        x.stand(0, 2);
+        x.ask(1);
+        x.enter();
+        x.ask(4);
+        x.value(x.ask(1));
+        for (int i = 0; i < 40 && x.count(2) < 58; i++) {
+            x.ask(1);
+        }
+    }
+
+    private static void undoLeaveOfMany() {
+        check.of("10: The latest ACT is UNDONE (leave() of many)");
+        String before = Picture.now(EdgeKeptTest::many);
+        for (int leaves = 1; leaves <= 3; leaves++) {
+            int times = leaves;
+            same("left " + leaves, before, Picture.now(x -> {
+                many(x);
+                for (int i = 0; i < times; i++) {
+                    x.leave();
+                }
+                for (int i = 0; i < times; i++) {
+                    x.undo();
+                }
+            }));
+            same("left and made anew " + leaves, before, Picture.now(x -> {
+                many(x);
+                x.image(0);
+                for (int i = 0; i < times; i++) {
+                    x.leave();
+                }
+                x.ask(1);
+                x.ask(0);
+                x.value(0);
+                x.ask(4);
+                x.again(0);
+            }));
+        }
+    }
+
+    private static void undoOfTheTwelfth() {
+        check.of("10: (MADE, what is told, too), of the 12th PART");
+        PlugBoard x = Check.boardOf("part just 1;".repeat(11) + "part just 1 span each bad;");
+        x.stand(11, 0);
+        x.leave();
+        check.due("what was stood for is no more", x.stands(11, 0), 11);
+        check.due("none", x.count(5), 0);
+        x.ask(11);
+        check.due("made", x.part(11, 6), 1);
+        x.leave();
+        check.due("ended", x.ended(0, true), 11);
+        x.undo();
+        check.due("not ended", x.ended(0, true), NONE);
+        x.undo();
+        check.due("not made", x.part(11, 6), 0);
+        x.undo();
+        check.due("stood for", x.stands(11, 0), 0);
+        x.undo();
+        check.due("not any more", x.stands(11, 0), 11);
     }
 
     private static void undoWhatCameToNothing() {

@@ -39,6 +39,7 @@ public final class EdgePlanTest {
         looserOfTheLast();
         looserLeastRow();
         standInsAreNotAsked();
+        otherParts();
         check.end();
     }
 
@@ -431,6 +432,29 @@ public final class EdgePlanTest {
         check.due("of two rings that share the last", Check.looser(Check.boardOf("part add 1 needs 2;part add 1 needs 2;part add 1 needs 0 1;")), "2: 0 4");
         check.due("one need for both", Check.looser(Check.boardOf("part add 1 needs 3;part add 1 needs 3;part add 1 needs 0 1;part add 1 needs 2;")), "1: 12");
         check.due("fewer goes ahead of less", Check.looser(Check.boardOf("part add 1 needs 1 2;part add 1 needs 3;part add 1 needs 3;part add 1 needs 0;")), "1: 12");
+    }
+
+    private static String plan(PlugBoard x) {
+        StringBuilder told = new StringBuilder();
+        told.append(Check.start(x)).append('|').append(Check.loop(x)).append('|').append(Check.looser(x)).append('|').append(x.deep());
+        for (int p = 0; p < x.count(0); p++) {
+            told.append('|').append(x.needs(p, false)).append(' ').append(x.needs(p, true)).append(' ').append(x.wave(p)).append(' ').append(x.lost(p));
+        }
+        return told.toString();
+    }
+
+    private static void otherParts() {
+        check.of("3: all is as at first, but PARTS as told (asked anew of other parts)");
+        String[] texts = {"", "part add 1 needs 0;", chain(4, ""), chain(4, " needs 1"), "part add 1 needs 0;part add 1 needs 1;part just 1;",
+            "part add 1 needs 0 0 0 0;", "part just 1;part just 1;"};
+        for (String first : texts) {
+            for (String then : texts) {
+                PlugBoard x = Check.boardOf(first);
+                plan(x);
+                Check.read(x, then);
+                check.due("'" + then + "' behind '" + first + "'", plan(x), plan(Check.boardOf(then)));
+            }
+        }
     }
 
     private static void standInsAreNotAsked() {

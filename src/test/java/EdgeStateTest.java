@@ -8,6 +8,7 @@ public final class EdgeStateTest {
         countOfAnother();
         countOfEach();
         countAheadOfAny();
+        countOfValues();
         countOfWhyStays();
         countOfBadIsOfTheLatest();
         partOfNone();
@@ -18,9 +19,12 @@ public final class EdgeStateTest {
         thingOfNone();
         thingOfAnother();
         thingOfEach();
+        thingOfAnEndedNumber();
         hasOfNone();
         hasNoneYet();
         hasMovesWithItsThings();
+        hasMovesOnce();
+        valuesMoveWithTheirThings();
         standsOfNone();
         standsUpToDepth();
         whyNotSoMany();
@@ -82,6 +86,26 @@ public final class EdgeStateTest {
         check.due("bad", x.count(8), 1);
         check.due("why", x.count(9), 2);
         check.due("which", x.count(10), -2);
+    }
+
+    private static void countOfValues() {
+        check.of("11: 2: THINGS, 3: those of which the VALUE is there");
+        PlugBoard x = Check.boardOf("part just 0 span each;");
+        for (int i = 0; i < 60; i++) {
+            x.ask(0);
+        }
+        check.due("none", x.count(3), 0);
+        x.value(0);
+        check.due("the first", x.count(3), 1);
+        x.value(59);
+        check.due("the last", x.count(3), 2);
+        for (int t = 1; t < 59; t++) {
+            x.value(t);
+        }
+        check.due("all", x.count(3), 60);
+        check.due("things of it", x.part(0, 8), 60);
+        x.leave();
+        check.due("none", x.count(3), 0);
     }
 
     private static void countOfWhyStays() {
@@ -242,6 +266,21 @@ public final class EdgeStateTest {
         check.due("is there", y.thing(0, 2), 1);
     }
 
+    private static void thingOfAnEndedNumber() {
+        check.of("14: 3: VALUE (0, if it is not there), of a THING with the number of one that ENDED");
+        PlugBoard x = Check.boardOf("part add 7 span each lazy 1;part just 5 span each;");
+        x.ask(0);
+        x.value(0);
+        check.due("value", x.thing(0, 3), 12);
+        check.due("it has", x.has(0, 0), 1);
+        x.leave();
+        x.ask(0);
+        check.due("no value", x.thing(0, 2), 0);
+        check.due("0", x.thing(0, 3), 0);
+        check.due("has none", x.thing(0, 4), 0);
+        check.due("has none", x.has(0, 0), NONE);
+    }
+
     private static void hasOfNone() {
         check.of("15: NONE: there is none such (of any)");
         check.due("no things", new PlugBoard().has(0, 0), NONE);
@@ -297,6 +336,62 @@ public final class EdgeStateTest {
         check.due("none is no number", x.has(1, 3), NONE);
         check.due("its value moved with it", x.thing(1, 3), 4);
         check.due("the next is numbered behind", x.ask(0), 3);
+    }
+
+    private static void hasMovesOnce() {
+        check.of("15: The THING of the k-th NEED of a THING (when others END)");
+        PlugBoard x = Check.boardOf("part add 1 lazy 2 2 needs 3 lazy 2;part just 1 span scope;part just 1 span each;part just 1;");
+        x.ask(0);
+        x.enter();
+        x.ask(1);
+        x.ask(2);
+        check.due("none yet", x.has(1, 3), NONE);
+        check.due("value", x.value(1), 1);
+        check.due("things", Check.things(x), "3@0 0@0 1@1 2@1 2@0 2@0 2@0");
+        check.due("leave", x.leave(), 2);
+        int[] due = {2, 3, 0, 4};
+        for (int k = 0; k < 4; k++) {
+            check.due("has " + k, x.has(1, k), due[k]);
+        }
+        PlugBoard y = Check.boardOf("part add 1 lazy 1 needs 2 lazy 1;part just 1;part just 1;part just 1 span scope;");
+        y.enter();
+        y.ask(3);
+        y.ask(0);
+        check.due("leave", y.leave(), 1);
+        int[] eager = {NONE, 0, NONE, NONE};
+        for (int k = 0; k < 4; k++) {
+            check.due("has " + k, y.has(1, k), eager[k]);
+        }
+        PlugBoard z = Check.boardOf("part add 1 lazy 1;part just 1;part just 1 span scope;");
+        z.ask(0);
+        z.enter();
+        z.ask(2);
+        z.value(0);
+        check.due("a need behind it", z.has(0, 0), 2);
+        z.leave();
+        check.due("of the first thing, too", z.has(0, 0), 1);
+    }
+
+    private static void valuesMoveWithTheirThings() {
+        check.of("14: VALUE (of those that live when others END)");
+        PlugBoard x = Check.boardOf("part just 1;part just 2;part just 3;part just 4 span scope;part just 5 span scope;");
+        x.enter();
+        x.ask(3);
+        x.ask(0);
+        x.ask(4);
+        x.ask(1);
+        x.ask(2);
+        x.value(0);
+        x.value(3);
+        check.due("things", Check.things(x), "3@1 0@0 4@1 1@0 2@0");
+        check.due("leave", x.leave(), 2);
+        check.due("things", Check.things(x), "0@0 1@0 2@0");
+        int[] due = {0, 2, 0};
+        for (int t = 0; t < 3; t++) {
+            check.due("is it there: " + t, x.thing(t, 2), due[t] == 0 ? 0 : 1);
+            check.due("value " + t, x.thing(t, 3), due[t]);
+        }
+        check.due("values", x.count(3), 1);
     }
 
     private static void standsOfNone() {

@@ -19,6 +19,7 @@ public final class EdgeTextTest {
         faultAtFirst();
         faultOfTheLatest();
         partsAtMostTwelve();
+        allOfTheTwelfth();
         numbersOfParts();
         numbersAreShort();
         needsAtMostFour();
@@ -29,6 +30,7 @@ public final class EdgeTextTest {
         badIsBad();
         everyByte();
         tokensGoOn();
+        otherWords();
         whatMayStand();
         theEnd();
         firstFaultGoesFirst();
@@ -276,6 +278,20 @@ public final class EdgeTextTest {
         faulty(1, twelve + "part just 1;part just 1@");
     }
 
+    private static void allOfTheTwelfth() {
+        check.of("Terms 1: PARTS, numbered from 0 on (all that is told of the 12th)");
+        PlugBoard x = reads(12, "part just 1;".repeat(11) + "part sub -998 span each breaks 9 bad needs 0 11 lazy 10 11;");
+        int[] due = {5, -998, 4, 2, 9, 1, 0, 12, 0};
+        for (int what = 0; what <= 8; what++) {
+            check.due("the 12th, what " + what, x.part(11, what), due[what]);
+            check.due("the 11th, what " + what, x.part(10, what), what == 1 ? 1 : 0);
+        }
+        PlugBoard y = reads(12, "part sub -998 span each breaks 9 bad needs 0 11 lazy 10 11;" + "part just 1;".repeat(11));
+        for (int what = 0; what <= 8; what++) {
+            check.due("the first, what " + what, y.part(0, what), due[what]);
+        }
+    }
+
     private static void numbersOfParts() {
         check.of("Terms 1: a NUMBER, -999 to 999");
         int[] numbers = {0, 1, 9, 10, 99, 100, 998, 999};
@@ -434,6 +450,37 @@ public final class EdgeTextTest {
         check.due("12 is no 1 and 2", reads(1, "part just 12;").part(0, 1), 12);
         check.due("two needs", reads(1, "part just 1 needs 0 0;").part(0, 2), 2);
         check.due("00 is one need", reads(1, "part just 1 needs 00;").part(0, 2), 1);
+    }
+
+    /** A word that may stand there, then each of its letters changed, left out, told twice, made great. */
+    private static void otherWord(String ahead, String word, String behind) {
+        reads(1, ahead + word + behind);
+        for (int i = 0; i < word.length(); i++) {
+            String left = ahead + "@" + word.substring(0, i);
+            String right = word.substring(i + 1) + behind;
+            faulty(1, left + "q" + right);
+            faulty(1, left + right);
+            faulty(1, left + word.charAt(i) + word.charAt(i) + right);
+            faulty(1, left + Character.toUpperCase(word.charAt(i)) + right);
+        }
+        faulty(1, ahead + "@" + word + "z" + behind);
+        faulty(1, ahead + "@z" + word + behind);
+    }
+
+    private static void otherWords() {
+        check.of("Terms 1: FAULT 1 (another word, too)");
+        otherWord("", "part", " just 1;");
+        for (String act : new String[] {"just", "add", "mul", "max", "min", "sub"}) {
+            otherWord("part ", act, " 1;");
+        }
+        for (String span : new String[] {"board", "scope", "each"}) {
+            otherWord("part just 1 span ", span, ";");
+        }
+        otherWord("part just 1 ", "span", " each;");
+        otherWord("part just 1 ", "needs", " 0;");
+        otherWord("part just 1 ", "lazy", " 0;");
+        otherWord("part just 1 ", "breaks", " 1;");
+        otherWord("part just 1 ", "bad", ";");
     }
 
     private static final String[] TOKENS = {"part", "just", "add", "mul", "max", "min", "sub", "span", "board", "scope",
