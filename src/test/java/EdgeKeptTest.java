@@ -12,6 +12,7 @@ public final class EdgeKeptTest {
         undoLatestEight();
         undoEachAct();
         undoLeaveOfMany();
+        undoOfAllNeeds();
         undoOfTheTwelfth();
         undoWhatCameToNothing();
         undoAllKinds();
@@ -145,6 +146,47 @@ public final class EdgeKeptTest {
                 x.again(0);
             }));
         }
+    }
+
+    /** 60 things with two needs each or none; then 60 others take their numbers. */
+    private static void undoOfAllNeeds() {
+        check.of("10, 29: all THINGS have their NEEDS again (60 of them)");
+        Picture.Run needy = x -> {
+            Check.read(x, "part just 4 span each;part add 1 span each needs 0 lazy 0 needs 0;part add 1 span each lazy 2;");
+            for (int i = 0; i < 20; i++) {
+                x.ask(1);
+            }
+        };
+        String before = Picture.now(needy);
+        same("undone", before, Picture.now(x -> {
+            needy.on(x);
+            x.leave();
+            x.ask(2);
+            x.value(0);
+            for (int i = 0; i < 3; i++) {
+                x.undo();
+            }
+        }));
+        same("kept", before, Picture.now(x -> {
+            needy.on(x);
+            x.image(1);
+            x.leave();
+            x.ask(2);
+            x.value(0);
+            x.again(1);
+        }));
+        PlugBoard x = new PlugBoard();
+        needy.on(x);
+        x.leave();
+        x.ask(2);
+        x.value(0);
+        check.due("the last one's lazy need is not there", x.has(59, 0), NONE);
+        check.due("the last but one's is", x.has(58, 0), 59);
+        x.undo();
+        x.undo();
+        x.undo();
+        check.due("the last one's first", x.has(59, 0), 57);
+        check.due("the last one's third", x.has(59, 2), 58);
     }
 
     private static void undoOfTheTwelfth() {

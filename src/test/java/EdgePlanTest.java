@@ -24,6 +24,7 @@ public final class EdgePlanTest {
         worthOfNone();
         worthOfNothing();
         worthAtTheBrim();
+        worthOfTheLast();
         deepOfNone();
         deepOfTwelve();
         deepWithLoop();
@@ -286,6 +287,21 @@ public final class EdgePlanTest {
         check.due("values", x.count(3), 0);
     }
 
+    private static void worthOfTheLast() {
+        check.of("23: VALUE that a PART would have, ASKED now (of the 60th thing, with its needs)");
+        PlugBoard x = Check.boardOf("part just 3 span each;part just 5;part just 7;part sub 100 needs 1 2 lazy 1 2;");
+        for (int i = 0; i < 57; i++) {
+            x.ask(0);
+        }
+        x.ask(3);
+        check.due("things", x.count(2), 60);
+        check.due("worth", x.worth(3), 100 - 5 - 7 - 5 - 7);
+        check.due("nothing is reckoned", x.count(3), 0);
+        check.due("its thing", x.would(3, 1), 59);
+        check.due("value", x.value(59), 1);
+        check.due("worth", x.worth(3), x.thing(59, 3));
+    }
+
     private static void deepOfNone() {
         check.of("24: how many PARTS");
         check.due("no parts", new PlugBoard().deep(), 0);
@@ -431,6 +447,11 @@ public final class EdgePlanTest {
         check.due("the least of a ring", Check.looser(Check.boardOf("part just 1;part add 1 needs 0 2;part add 1 needs 0 1;")), "1: 5");
         check.due("of two rings that share the last", Check.looser(Check.boardOf("part add 1 needs 2;part add 1 needs 2;part add 1 needs 0 1;")), "2: 0 4");
         check.due("one need for both", Check.looser(Check.boardOf("part add 1 needs 3;part add 1 needs 3;part add 1 needs 0 1;part add 1 needs 2;")), "1: 12");
+        check.due("the least, though the loop begins behind it", Check.looser(Check.boardOf("part add 1 needs 2;part add 1 needs 2;part add 1 needs 1;")), "1: 4");
+        check.due("of two loops that begin behind their least", Check.looser(Check.boardOf(
+                "part add 1 needs 4;part add 1 needs 2;part add 1 needs 1;part add 1 needs 4;part add 1 needs 3;")), "2: 4 12");
+        check.due("of three", Check.looser(Check.boardOf(
+                "part add 1 needs 2;part add 1 needs 2;part add 1 needs 1;part add 1 needs 4;part add 1 needs 3;part add 1 lazy 5 needs 6;part add 1 needs 5;")), "3: 4 12 21");
         check.due("fewer goes ahead of less", Check.looser(Check.boardOf("part add 1 needs 1 2;part add 1 needs 3;part add 1 needs 3;part add 1 needs 0;")), "1: 12");
     }
 

@@ -146,6 +146,22 @@ public final class RefusedTest {
             }
         };
         unchanged("undo of no more", undone, Picture.of(undone), PlugBoard::undo);
+        Picture.Run brought = x -> {
+            rich(x);
+            x.image(2);
+            x.again(2);
+        };
+        unchanged("undo behind again()", brought, Picture.of(brought), PlugBoard::undo);
+        Picture.Run many = x -> {
+            rich(x);
+            for (int i = 0; i < 8; i++) {
+                x.ask(1);
+            }
+            for (int i = 0; i < 8; i++) {
+                x.undo();
+            }
+        };
+        unchanged("undo of the 9th", many, Picture.of(many), PlugBoard::undo);
         Picture.Run typed = x -> {
             rich(x);
             Check.type(x, ";" + " ".repeat(600 - 13 - 7));
