@@ -2,7 +2,10 @@ import java.util.ArrayList;
 import java.util.List;
 import java.util.Random;
 
-/** Long runs of calls, by numbers that are the same each time, against the plain model. */
+/**
+ * Long runs of calls, by numbers that are the same each time, against the plain model. The questions make
+ * more than 512 calls on an object, of which the document promises the first 512; the class does not count them.
+ */
 public final class ModelTest {
     private static final int NONE = PlugBoard.NONE;
     private static final String[] ACTS = {"just", "add", "mul", "max", "min", "sub"};
@@ -14,8 +17,15 @@ public final class ModelTest {
     private List<Model.Part> parts = new ArrayList<>();
     private List<int[]> done = new ArrayList<>();
     private int undoable = 0;
+    // THE TEXT and the FAULT, which acts and undo() leave alone, but images keep.
+    private String typed = "";
+    private int fault = 0;
+    private int place = NONE;
     private final List<List<Model.Part>> keptParts = new ArrayList<>();
     private final List<List<int[]>> keptDone = new ArrayList<>();
+    private final String[] keptTyped = new String[3];
+    private final int[] keptFault = new int[3];
+    private final int[] keptPlace = new int[3];
 
     private ModelTest(int seed) {
         random = new Random(seed);
@@ -43,18 +53,19 @@ public final class ModelTest {
     }
 
     private void step(String at) {
-        int dice = random.nextInt(100);
+        int dice = random.nextInt(106);
         if (dice < 78) {
             doAct(at);
         } else if (dice < 88) {
             undo(at);
         } else if (dice < 93) {
-            int k = random.nextInt(3);
-            check.due(at + " image", x.image(k), true);
-            keptParts.set(k, parts);
-            keptDone.set(k, new ArrayList<>(done));
+            image(at, random.nextInt(3));
         } else if (dice < 98) {
             again(at, random.nextInt(3));
+        } else if (dice < 102) {
+            typeFaulty(at);
+        } else if (dice < 104) {
+            readFaulty(at);
         } else {
             readParts(at);
             comparePlan(at);
@@ -107,6 +118,36 @@ public final class ModelTest {
         check.due(at + " undo", x.undo(), undoable);
     }
 
+    /** Blanks and a word that can not stand there: so the text is faulty, at a place that is easy to see. */
+    private void typeFaulty(String at) {
+        String more = " ".repeat(random.nextInt(90)) + "x" + "\n".repeat(random.nextInt(90));
+        for (int from = 0; from < more.length(); from += 8) {
+            String eight = more.substring(from, Math.min(more.length(), from + 8));
+            boolean fits = typed.length() + eight.length() <= 600;
+            typed += fits ? eight : "";
+            check.due(at + " type", x.type(Check.eight(eight, 0)), fits ? typed.length() : NONE);
+        }
+    }
+
+    private void readFaulty(String at) {
+        if (typed.indexOf('x') < 0) {
+            return;
+        }
+        check.due(at + " read", x.read(), NONE);
+        fault = 1;
+        place = typed.indexOf('x');
+        typed = "";
+    }
+
+    private void image(String at, int k) {
+        check.due(at + " image", x.image(k), true);
+        keptParts.set(k, parts);
+        keptDone.set(k, new ArrayList<>(done));
+        keptTyped[k] = typed;
+        keptFault[k] = fault;
+        keptPlace[k] = place;
+    }
+
     private void again(String at, int k) {
         boolean there = keptDone.get(k) != null;
         check.due(at + " again", x.again(k), there);
@@ -114,6 +155,9 @@ public final class ModelTest {
             parts = keptParts.get(k);
             done = new ArrayList<>(keptDone.get(k));
             undoable = 0;
+            typed = keptTyped[k];
+            fault = keptFault[k];
+            place = keptPlace[k];
             comparePlan(at);
         }
     }
@@ -127,6 +171,7 @@ public final class ModelTest {
     }
 
     private void readParts(String at) {
+        readFaulty(at);
         int size = random.nextInt(13);
         int style = random.nextInt(4);
         parts = new ArrayList<>();
@@ -138,8 +183,11 @@ public final class ModelTest {
             parts.add(part);
             tellPart(text, part);
         }
-        check.due(at + " length", Check.type(x, text.toString()), text.length());
+        check.due(at + " length", Check.type(x, text.toString()), typed.length() + text.length());
         check.due(at + " read", x.read(), size);
+        typed = "";
+        fault = 0;
+        place = NONE;
     }
 
     private Model.Part randomPart(int p, int size, int style) {
@@ -213,10 +261,12 @@ public final class ModelTest {
         }
         List<Integer> bad = new ArrayList<>(model.ended);
         bad.removeIf(p -> !parts.get(p).bad);
-        int[] counts = {parts.size(), model.depth(), model.things.size(), valued, made, stood, undoable, 0, bad.size(), model.why.size(), model.kind};
+        int[] counts = {parts.size(), model.depth(), model.things.size(), valued, made, stood, undoable, typed.length(), bad.size(), model.why.size(), model.kind};
         for (int what = 0; what < counts.length; what++) {
             check.due(at + " count " + what, x.count(what), counts[what]);
         }
+        check.due(at + " fault", x.fault(false), fault);
+        check.due(at + " place", x.fault(true), place);
         check.due(at + " why", Check.why(x), (model.kind + ": " + row(model.why)).trim());
         check.due(at + " ended", Check.ended(x, false), row(model.ended));
         check.due(at + " bad", Check.ended(x, true), row(bad));
